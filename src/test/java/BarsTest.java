@@ -12,6 +12,7 @@ public final class BarsTest {
         loadCounts();
         loadRefuses();
         takeClosesUp();
+        takeFromFull();
         takeRefuses();
         barTells();
         barRefuses();
@@ -162,6 +163,25 @@ public final class BarsTest {
         DUE.due("4 no BRICK", x.take(2, 1, 0), StageLines.NO);
         DUE.due("4 load behind take", x.load(2, 0, 14), 2);
         DUE.due("4 it is PIECE 1", x.bar(2, 11), 14);
+    }
+
+    private static void takeFromFull() {
+        StageLines x = new StageLines();
+        for (int side = 0; side < 2; side++) {
+            for (int k = 0; k < 6; k++) {
+                x.load(8, side, 40 + k);
+            }
+            DUE.due("5 six together", x.bar(8, 5 + side), 255);
+            DUE.due("4 take the first of six", x.take(8, side, 0), 40);
+            DUE.due("5 five together", x.bar(8, 5 + side), 215);
+            for (int k = 0; k < 5; k++) {
+                DUE.due("4 those behind it", x.bar(8, 10 + 10 * side + k), 41 + k);
+            }
+            DUE.due("4 no sixth", x.bar(8, 15 + 10 * side), StageLines.NONE);
+            DUE.due("4 take the last of five", x.take(8, side, 4), 45);
+            DUE.due("5 four together", x.bar(8, 5 + side), 170);
+            DUE.due("3 room again", x.load(8, side, 1), 5);
+        }
     }
 
     private static void takeRefuses() {

@@ -14,6 +14,7 @@ public final class HandsTest {
         mostAtOnce();
         firstWayByRisingNumbers();
         leastHandsGoAheadOfLesserHands();
+        crewIsAsThingsAre();
         crewIsByTime();
         handsRefuses();
         crewRefuses();
@@ -142,6 +143,12 @@ public final class HandsTest {
         tellsHands(x, 3, 3, 2);
         x.load(0, 0, 30);
         tellsHands(x, 2, 2, 1);
+        StageLines y = new StageLines();
+        y.move(2, 20, 0, 5);
+        y.move(1, 10, 0, 1);
+        y.move(0, 0, 0, 1);
+        // All three only from 20 on, as the MOVE of the least number begins.
+        tellsHands(y, 3, 3, 3);
     }
 
     private static void firstWayByRisingNumbers() {
@@ -173,6 +180,23 @@ public final class HandsTest {
         x.drop(3);
         tellsHands(x, 2, 3, 2);
         tellsCrew(x, 0, 0, 1);
+    }
+
+    /** Each is the first call behind a change. */
+    private static void crewIsAsThingsAre() {
+        StageLines x = new StageLines();
+        x.move(0, 10, 0, 1);
+        x.move(1, 10, 0, 1);
+        DUE.due("17 crew(1, 0)", x.crew(1, 0), 1);
+        x.shift(1, 100);
+        DUE.due("17 crew(0, 1) behind shift", x.crew(0, 1), 1);
+        x.drop(0);
+        DUE.due("17 crew(0, 1) behind drop", x.crew(0, 1), StageLines.NONE);
+        DUE.due("11 told(0, 8) behind drop", x.told(0, 8), 0);
+        x.load(1, 1, 21);
+        DUE.due("11 told(0, 8) behind load", x.told(0, 8), StageLines.NONE);
+        x.take(1, 1, 0);
+        DUE.due("17 crew(0, 0) behind take", x.crew(0, 0), 0);
     }
 
     private static void crewIsByTime() {

@@ -12,6 +12,7 @@ public final class StrikesTest {
         strikeRefuses();
         clashIsTheFirst();
         clashOfSeveralPairs();
+        clashOfTheOuterBars();
         clashOfAnEarlierPair();
         clashRefuses();
         oftenCounts();
@@ -155,6 +156,16 @@ public final class StrikesTest {
         // 2 and 7 are 5 apart, no farther than their REACHES, but 5 is the least other one.
         x.set(2, 2, 3);
         tellsClash(x, 0, 0, 2, 5);
+    }
+
+    private static void clashOfTheOuterBars() {
+        StageLines x = hung(0, 6, 10, 10);
+        x.set(0, 2, 3);
+        x.set(6, 2, 3);
+        tellsClash(x, 7, 7, 0, 6);
+        x = hung(8, 9, 10, 10);
+        x.set(9, 2, 1);
+        tellsClash(x, 7, 7, 8, 9);
     }
 
     private static void clashOfAnEarlierPair() {
