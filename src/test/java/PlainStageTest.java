@@ -1,5 +1,3 @@
-import java.lang.reflect.Method;
-import java.util.Arrays;
 import java.util.Random;
 
 /** Long runs of calls, the same at every start, whose answers are those of PlainStage. */
@@ -38,29 +36,25 @@ public final class PlainStageTest {
     }
 
     /** A call that throws ends the program, and so fails, too. */
-    public static void main(String[] args) throws ReflectiveOperationException {
+    public static void main(String[] args) {
         Due due = new Due("PlainStageTest");
-        Method[] stageLines = methodsOf(StageLines.class);
-        Method[] plainStage = methodsOf(PlainStage.class);
         for (int run = 0; run < RUNS; run++) {
-            new PlainStageTest(run).compare(run, stageLines, plainStage, due);
+            new PlainStageTest(run).compare(run, due);
         }
         due.close();
     }
 
-    private void compare(int run, Method[] stageLines, Method[] plainStage, Due due)
-            throws ReflectiveOperationException {
+    private void compare(int run, Due due) {
         StageLines x = new StageLines();
         PlainStage plain = new PlainStage();
         for (int i = 0; i < CALLS_OF_A_RUN; i++) {
-            int call = choose();
-            int[] a = new int[4];
-            for (int j = 0; j < TAKES[call]; j++) {
-                a[j] = random.nextInt(oddOneIn) == 0 ? ODD[random.nextInt(ODD.length)] : argument(call, j, a);
+            int which = choose();
+            int[] a = new int[TAKES[which]];
+            for (int j = 0; j < a.length; j++) {
+                a[j] = random.nextInt(oddOneIn) == 0 ? ODD[random.nextInt(ODD.length)] : argument(which, j, a);
             }
-            int got = answer(x, stageLines[call], a);
-            int want = answer(plain, plainStage[call], a);
-            due.due("run " + run + ", call " + i + ": " + text(call, a), got, want);
+            Call call = Call.of(CALLS[which], a);
+            due.due("run " + run + ", call " + i + ": " + call, call.on(x), call.on(plain));
         }
     }
 
@@ -76,14 +70,6 @@ public final class PlainStageTest {
             call++;
         }
         return call;
-    }
-
-    private static String text(int call, int[] a) {
-        StringBuilder text = new StringBuilder(CALLS[call]).append('(');
-        for (int j = 0; j < TAKES[call]; j++) {
-            text.append(j == 0 ? "" : ", ").append(a[j]);
-        }
-        return text.append(')').toString();
     }
 
     private int aBar() {
@@ -123,20 +109,5 @@ public final class PlainStageTest {
             case 2: return random.nextInt(4);
             default: return weights + random.nextInt(2 * weights > 50 ? 51 : 2 * weights);
         }
-    }
-
-    private static Method[] methodsOf(Class<?> type) throws NoSuchMethodException {
-        Method[] methods = new Method[CALLS.length];
-        for (int call = 0; call < CALLS.length; call++) {
-            Class<?>[] takes = new Class<?>[TAKES[call]];
-            Arrays.fill(takes, int.class);
-            methods[call] = type.getDeclaredMethod(CALLS[call], takes);
-        }
-        return methods;
-    }
-
-    private static int answer(Object x, Method method, int[] a) throws ReflectiveOperationException {
-        Object[] arguments = Arrays.stream(a).limit(method.getParameterCount()).boxed().toArray();
-        return (int) method.invoke(x, arguments);
     }
 }
