@@ -53,6 +53,9 @@ public final class ImagesEdgesTest {
         EDGES.run(least, "image(0)", greatest, "image(1)", "restore(0) = 1", tellsLeast, "restore(1) = 1", tellsGreatest);
         EDGES.run("move(9, 0, 0, 1)", "image(1)", "shift(0, 200)", "restore(1)", "told(0, 1) = 0", "drop(0)",
             "restore(1)", "count(0) = 1", "told(0, 0) = 9", "told(0, 2) = 0", "told(0, 3) = 1");
+        EDGES.run("move(9, 200, 60, 5)", "image(0)", "drop(0)", "move(0, 0, 0, 1)", "image(1)", "restore(0)",
+            "told(0, 0) = 9", "told(0, 1) = 200", "told(0, 2) = 60", "told(0, 3) = 5", "restore(1)", "told(0, 0) = 0",
+            "told(0, 1) = 0", "told(0, 2) = 0", "told(0, 3) = 1");
         EDGES.sentence("the IMAGE stays: 1.");
         for (int k = 0; k < 2; k++) {
             EDGES.let("k", k);

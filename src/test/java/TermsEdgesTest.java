@@ -247,6 +247,9 @@ public final class TermsEdgesTest {
         // 0 could go first, but then neither 1 nor the BRICK fits: what comes first has to leave a way for all.
         EDGES.run("load(0, 0, 1)", "load(0, 0, 20)", "load(0, 1, 40)", "loading(0, 0) = 1", "loading(0, 1) = 10",
             "loading(0, 2) = 0", "loadings(0) = 1");
+        // So with BRICKS: BRICK 0 could go first, but then neither BRICK 1 nor the PIECE fits.
+        EDGES.run("load(0, 1, 1)", "load(0, 1, 20)", "load(0, 0, 40)", "loading(0, 0) = 11", "loading(0, 1) = 0",
+            "loading(0, 2) = 10", "loadings(0) = 1");
     }
 
     private static void movesAndTheirNumbers() {
@@ -274,6 +277,10 @@ public final class TermsEdgesTest {
         EDGES.run("told(0, 0) = UNKNOWN", nine, "move(9, 0, 0, 1)", "told(0, 0) = 0", "told(9, 0) = 9",
             "told(-1, 0) = UNKNOWN", "drop(0)", "told(0, 0) = 1", "told(8, 0) = 9", "told(9, 0) = UNKNOWN", "drop(8)",
             "told(0, 0) = 1", "told(7, 0) = 8", "told(8, 0) = UNKNOWN", "drop(6)", "told(5, 0) = 6", "told(6, 0) = 8");
+        // All that was told of it goes with it.
+        EDGES.run("move(0, 0, 0, 1)", "move(9, 200, 60, 5)", "move(8, 199, 59, 4)", "drop(0)", "told(0, 0) = 9",
+            "told(0, 1) = 200", "told(0, 2) = 60", "told(0, 3) = 5", "told(1, 0) = 8", "told(1, 1) = 199",
+            "told(1, 2) = 59", "told(1, 3) = 4");
     }
 
     private static void movesAreApart() {
