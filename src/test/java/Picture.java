@@ -3,8 +3,8 @@ import java.util.List;
 import java.util.function.Supplier;
 
 /**
- * All that can be asked of an object behind a run of calls. As an object is good for 512 calls, the run is played on
- * several new ones, and each is asked a part.
+ * What an object holds behind a run of calls, all of it, and most of what is reckoned from that. As an object is good
+ * for 512 calls, the run is played on several new ones, and each is asked a part.
  */
 final class Picture {
     private static final int CALLS_OF_AN_OBJECT = 512;
