@@ -161,7 +161,7 @@ final class Edges {
     }
 
     /** What stands under a heading, in one line, without what only gives it form. */
-    private static String sectionOf(String document, String heading) {
+    static String sectionOf(String document, String heading) {
         String begin = "\n## " + heading + "\n";
         int at = document.indexOf(begin);
         if (at < 0) {
